@@ -626,23 +626,19 @@ public final class AcreBuys {
 
     private static int priceOf(int kind, int worth, int wary, int heard) {
         int ware = wareOf(wary, heard);
-        int plain = ownerPrice(worth, ware);
+        if (kind == BROTHER) {
+            ware = Math.min(WARE_LIMIT, 2 * ware);
+        }
+        int plain = worth + worth * ware / 10;
+        int stubborn = ware >= 5 ? plain + worth : plain;
         switch (kind) {
             case KEEN: return plain - (plain - worth) / 2;
-            case STUBBORN: return stubbornPrice(worth, ware);
+            case STUBBORN: return stubborn;
+            case LORD: return stubborn + stubborn / 2;
             case TALKER: return plain + 5 * heard;
-            case LORD: return stubbornPrice(worth, ware) + stubbornPrice(worth, ware) / 2;
-            case BROTHER: return ownerPrice(worth, Math.min(WARE_LIMIT, 2 * ware)) + 5 * heard;
+            case BROTHER: return plain + 5 * heard;
             default: return plain;
         }
-    }
-
-    private static int ownerPrice(int worth, int ware) {
-        return worth + worth * ware / 10;
-    }
-
-    private static int stubbornPrice(int worth, int ware) {
-        return ownerPrice(worth, ware) + (ware >= 5 ? worth : 0);
     }
 
     // ---- the plan's grammar: a reading that answers false (or -1) stays at the TOKEN that can't stand
@@ -1043,6 +1039,9 @@ public final class AcreBuys {
      * so it is enough to know for each set what the others cost at least.
      */
     private static final class OrderSearch {
+        /** More than any row of FIELDS can cost. */
+        private static final int UNREACHED = 1 << 30;
+
         private int size;
         private final int[] fields;
         /** For each FIELD of the row which others of the row TELL it, by their places in the row. */
@@ -1064,7 +1063,7 @@ public final class AcreBuys {
             int all = (1 << size) - 1;
             rest[all] = 0;
             for (int bought = all - 1; bought >= 0; bought--) {
-                int least = Integer.MAX_VALUE;
+                int least = UNREACHED;
                 for (int i = 0; i < size; i++) {
                     if (!isIn(i, bought)) {
                         least = Math.min(least, costBy(i, bought));
@@ -1187,10 +1186,10 @@ public final class AcreBuys {
                 return END;
             }
             int b = bytes[place];
-            if (isWithin(b, 'a', 'z')) {
+            if (b >= 'a' && b <= 'z') {
                 return WORD;
             }
-            if (isWithin(b, '0', '9')) {
+            if (b >= '0' && b <= '9') {
                 return NUMBER;
             }
             return b == ';' ? SIGN : NO_TOKEN;

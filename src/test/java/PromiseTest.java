@@ -300,6 +300,7 @@ public final class PromiseTest {
         due("p9 there is one", x.paper(0, 99), STATE);
         x.offer(1, 109);
         due("p9 not free", x.paper(1, 99), STATE);
+        due("p9 spent is more by it", x.stands(1), 10 + 1 + 109);
         due("p9 month 100", x.paper(2, 100), BEYOND);
         due("p9 month -1", x.paper(2, -1), BEYOND);
         due("p9 field 9", x.paper(9, 0), BEYOND);
@@ -593,6 +594,11 @@ public final class PromiseTest {
         x.rule(0, 100);
         x.month();
         due("p21 can't be any more", x.best(), 2);
+        AcreBuys y = plain(3, 10);
+        y.strip(1, 0);
+        y.strip(2, 0);
+        y.strip(6, 0);
+        due("p21 strip 0", y.best(), 0);
     }
 
     private static void p22Last() {
@@ -637,6 +643,10 @@ public final class PromiseTest {
             x.month();
         }
         due("p23 none can be", x.giveUp(9999999), 1);
+        AcreBuys y = new AcreBuys();
+        due("p23 gain 0, no strips", y.giveUp(0), 1);
+        y.strip(0, 0);
+        due("p23 gain 0 is enough", y.giveUp(0), 0);
         due("p23 gain 10000000", x.giveUp(10000000), BEYOND);
         due("p23 gain -1", x.giveUp(-1), BEYOND);
     }
@@ -731,6 +741,13 @@ public final class PromiseTest {
         y.rule(0, 100);
         y.month();
         due("p27 though it can't be", y.first(0), 1);
+        AcreBuys z = plain(4, 100);
+        z.set(0, 1, 150);
+        z.set(0, 3, 1 << 1);
+        z.set(1, 3, 1 << 2);
+        z.set(2, 3, 1 << 1);
+        z.strip(15, 0);
+        due("p27 together, not the last alone", z.first(0), 0);
     }
 
     private static void p28Feed() {
@@ -822,6 +839,8 @@ public final class PromiseTest {
         plan("owner 5 wary", -13);
         plan("owner 5 wary 10", -14);
         plan("owner 5 wary 9", 1);
+        plan("owner 5 wary 0", 1);
+        plan("strip 0 round 0", 1);
         plan("owner 5 tells", -14);
         plan("owner 5 tells;", -14);
         plan("owner 5 tells 14", -15);
@@ -1005,7 +1024,13 @@ public final class PromiseTest {
         due("p35 no refusal", x.of(2, 2), 0);
         x.write(0, 9, 99999);
         due("p35 the greatest price", x.offers(0), 1);
-        due("p35 missing", x.offers(1), MISSING);
+        x.sheet(1, 8, 4);
+        x.write(1, 0, 3);
+        x.write(1, 2, 3);
+        x.write(1, 3, 120);
+        due("p35 the last pair", x.offers(1), 1);
+        due("p35 a price of 0 makes wary", x.of(3, 2), 1);
+        due("p35 missing", x.offers(2), MISSING);
         due("p35 sheet 4", x.offers(4), BEYOND);
         due("p35 sheet -1", x.offers(-1), BEYOND);
     }
@@ -1128,12 +1153,30 @@ public final class PromiseTest {
         x.set(0, 1, 3);
         due("p38 it stays kept", x.undo(), 5);
         due("p38 again", x.of(0, 1), 100);
+        p38Papers();
         AcreBuys y = new AcreBuys();
         y.image();
         y.field(0, 1);
+        y.set(0, 2, 9);
+        y.set(0, 3, 9);
         due("p38 to nothing", y.undo(), 0);
         due("p38 no field", y.of(0, 0), BEYOND);
         due("p38 a new one", y.field(2, 3), 0);
+        due("p38 not wary", y.of(0, 2), 0);
+        due("p38 tells none", y.of(0, 3), 0);
+    }
+
+    private static void p38Papers() {
+        AcreBuys x = plain(1, 100);
+        x.paper(0, 0);
+        x.image();
+        x.month();
+        x.set(0, 2, 9);
+        x.paper(0, 50);
+        due("p38 another paper", x.paperOf(0, 0), 190);
+        x.undo();
+        due("p38 the price of then", x.paperOf(0, 0), 100);
+        due("p38 the month of then", x.paperOf(0, 1), 0);
     }
 
     private static void p39Tear() {
